@@ -45,11 +45,13 @@ public final class WhatToRead {
     }
 
     public int topic(int worth, int implies) {
-        if (!isWithin(worth, 0, MOST_WORTH) || !topics.haveAll(implies) || topics.isFull()) {
+        if (!isWithin(worth, 0, MOST_WORTH) || !topics.haveAll(implies)) {
             return NONE;
         }
         int number = topics.add(worth, implies);
-        asking.addTopic(number, topics.closure(implies));
+        if (number != NONE) {
+            asking.addTopic(number, topics.impliedBy(number));
+        }
         return number;
     }
 
@@ -199,14 +201,13 @@ public final class WhatToRead {
     // ---- asking
 
     public int answer(int topic, boolean is) {
-        return isWithin(topic, 0, topics.size() - 1) ? asking.record(topic, is) : NONE;
+        return isWithin(topic, 0, topics.size() - 1) ? asking.accept(topic, is) : NONE;
     }
 
     public int ask() {
         asking.startAnew();
         for (int topic = 0; topic < topics.size(); topic++) {
-            int bit = 1 << topic;
-            asking.addTopic(topic, topics.closure(bit) & ~bit);
+            asking.addTopic(topic, topics.impliedBy(topic));
         }
         return asking.size();
     }
@@ -270,18 +271,14 @@ public final class WhatToRead {
             return count;
         }
 
-        boolean isFull() {
-            return count >= MOST_TOPICS;
-        }
-
         boolean haveAll(int bits) {
             return bits >= 0 && bits < 1 << count;
         }
 
-        /** A topic implies only older ones, so that its closure never changes later. */
+        /** NONE behind the last. A topic implies only older ones, so its closure never changes later. */
         int add(int worth, int implies) {
             int number = count;
-            if (number < 0 || number >= worths.length || number >= closures.length) {
+            if (number >= worths.length || number >= closures.length) {
                 return NONE;
             }
             worths[number] = worth;
@@ -298,6 +295,11 @@ public final class WhatToRead {
                 }
             }
             return all;
+        }
+
+        int impliedBy(int topic) {
+            int bit = 1 << topic;
+            return closure(bit) & ~bit;
         }
 
         int worthOf(int bits) {
@@ -664,7 +666,7 @@ public final class WhatToRead {
             }
         }
 
-        int record(int topic, boolean is) {
+        int accept(int topic, boolean is) {
             int having = countHaving(sets, 0, count, topic);
             int left = is ? having : count - having;
             if ((answered >> topic & 1) == 1 || left == 0) {

@@ -50,7 +50,9 @@ public final class AskingTest {
     private static void answerRefused() {
         WhatToRead x = chain();
         CHECK.same("21 no such topic", x.answer(3, true), -1);
+        CHECK.same("21 no such topic", x.answer(3, false), -1);
         CHECK.same("21 no such topic", x.answer(-1, true), -1);
+        CHECK.same("21 no such topic", x.answer(-1, false), -1);
         CHECK.same("21 no such topic", x.answer(32, false), -1);
         CHECK.same("21 lowest int", x.answer(Integer.MIN_VALUE, false), -1);
         x.answer(1, true);
@@ -59,6 +61,7 @@ public final class AskingTest {
         CHECK.same("21 none would be left", x.answer(0, false), -1);
         CHECK.states("21 refused", x, 3, 7);
         CHECK.same("21 a refused answer is none", x.answer(0, true), 2);
+        CHECK.same("21 the first was answered still", x.answer(1, true), -1);
         CHECK.same("21 no topic", new WhatToRead().answer(0, true), -1);
     }
 
@@ -70,6 +73,7 @@ public final class AskingTest {
         CHECK.states("22 ask()", x, 0, 1, 3, 7);
         CHECK.same("22 no answers any more", x.answer(1, false), 2);
         CHECK.same("22 ask()", x.ask(), 4);
+        CHECK.same("22 not the first either", x.answer(0, true), 3);
     }
 
     private static void statesOfTopics() {
@@ -156,7 +160,6 @@ public final class AskingTest {
         x.answer(0, true);
         CHECK.same("25 64 of them", x.worst(), 6);
 
-        // Of the topics that all imply the first, each next question but the first leaves a comb.
         WhatToRead comb = new WhatToRead();
         comb.topic(0, 0);
         for (int i = 1; i < 6; i++) {

@@ -141,5 +141,8 @@ public final class PiecesTest {
         CHECK.same("11 read", x.done(2), 15);
         CHECK.same("11 known", x.count(2), 15);
         CHECK.same("11 nothing new", x.done(4), 15);
+        x.know(0);
+        x.piece(0, 0, 6, 4, 1);
+        CHECK.same("11 skimmed, with what it implies", x.done(7), 7);
     }
 }

@@ -107,6 +107,12 @@ public final class WaysTest {
         x.pace(10);
         CHECK.same("12 pace", x.way(6), 200);
         CHECK.same("12 known stays", x.count(2), 1);
+        x.drop();
+        x.piece(0, 0, 6, 2, 27);
+        x.know(0);
+        x.pace(1);
+        CHECK.same("12 skimmed brings what it implies", x.way(1), 9);
+        CHECK.row("12 skimmed brings what it implies", x, 3);
     }
 
     private static void longestWay() {
@@ -247,6 +253,14 @@ public final class WaysTest {
         x.know(0);
         CHECK.same("16 not known any more", x.gaps(), 5);
 
+        WhatToRead z = plainTopics(3);
+        z.piece(0, 0, 1, 0, 1);
+        z.piece(0, 0, 2, 0, 1);
+        z.piece(7, 0, 2, 0, 1);
+        CHECK.same("16 given by any", z.gaps(), 4);
+        z.piece(0, 4, 1, 0, 1);
+        CHECK.same("16 needed by any", z.gaps(), 4);
+
         WhatToRead y = new WhatToRead();
         y.topic(1, 0);
         y.topic(1, 1);
@@ -266,6 +280,7 @@ public final class WaysTest {
         CHECK.same("17 the longer one", x.shortens(0, 1), 0);
         CHECK.same("17 none without it", x.shortens(2, 2), -2);
         CHECK.same("17 none with it", x.shortens(3, 4), -1);
+        CHECK.same("17 the last piece", x.shortens(3, 2), 0);
         CHECK.same("17 none with it and others", x.shortens(2, 6), -1);
         CHECK.same("17 wish known", x.shortens(1, 0), 0);
         CHECK.same("17 no such piece", x.shortens(4, 1), -1);

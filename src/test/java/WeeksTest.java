@@ -50,6 +50,17 @@ public final class WeeksTest {
         CHECK.same("18 changed again", x.lay(51), 51);
         CHECK.same("18 at first 300", x.pace(5) == 2 && x.lay(2) == 3, true);
         laidIs("18 at first 300", x, 2, 3, 3);
+
+        WhatToRead y = new WhatToRead();
+        y.topic(1, 0);
+        y.topic(1, 0);
+        y.piece(0, 0, 1, 0, 150);
+        y.piece(0, 0, 2, 0, 301);
+        y.way(1);
+        CHECK.same("18 at first just 300", y.lay(9), 9);
+        y.pace(1);
+        y.way(2);
+        CHECK.same("18 at first not 301", y.lay(9), -2);
     }
 
     private static void laying() {
