@@ -679,7 +679,7 @@ public final class WhatToRead {
 
         private void keep(int topic, boolean is) {
             int kept = 0;
-            for (int i = 0; i < count; i++) {
+            for (int i = 0; i < count && i < sets.length; i++) {
                 if (has(sets[i], topic) == is) {
                     sets[kept] = sets[i];
                     kept++;
@@ -690,7 +690,7 @@ public final class WhatToRead {
 
         int inCommon() {
             int common = SETS - 1;
-            for (int i = 0; i < count; i++) {
+            for (int i = 0; i < count && i < sets.length; i++) {
                 common &= sets[i];
             }
             return common;
@@ -704,7 +704,7 @@ public final class WhatToRead {
             if (count > scratch.length) {
                 return NONE;
             }
-            for (int i = 0; i < count; i++) {
+            for (int i = 0; i < count && i < sets.length; i++) {
                 scratch[i] = sets[i];
             }
             return questionsUntilOne(scratch, 0, count, 0);

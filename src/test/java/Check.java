@@ -1,4 +1,6 @@
 import java.util.NoSuchElementException;
+import java.util.function.Supplier;
+import java.util.function.ToIntFunction;
 
 /** Tells each answer that is not the one due, and ends a test's run. */
 final class Check {
@@ -32,6 +34,15 @@ final class Check {
         same("state(" + i + ") throws", thrown, true);
     }
 
+    /** A call that is to be refused: NONE, and the object tells what one tells that had no such call. */
+    void refused(String what, Supplier<WhatToRead> made, ToIntFunction<WhatToRead> call) {
+        WhatToRead x = made.get();
+        same(what, call.applyAsInt(x), WhatToRead.NONE);
+        String due = Made.told(made.get());
+        String got = Made.told(x);
+        same(what + " changes nothing (now " + got + ", before " + due + ")", got.equals(due), true);
+    }
+
     void row(String what, WhatToRead x, int... due) {
         same(what + ": count(5)", x.count(5), due.length);
         for (int i = 0; i < due.length; i++) {
@@ -39,6 +50,14 @@ final class Check {
         }
         same(what + ": step behind", x.step(due.length), WhatToRead.NONE);
         same(what + ": step ahead", x.step(-1), WhatToRead.NONE);
+    }
+
+    void laid(String what, WhatToRead x, int... due) {
+        for (int i = 0; i < due.length; i++) {
+            same(what + ": laid(" + i + ")", x.laid(i), due[i]);
+        }
+        same(what + ": laid behind", x.laid(due.length), WhatToRead.NONE);
+        same(what + ": laid ahead", x.laid(-1), WhatToRead.NONE);
     }
 
     void states(String what, WhatToRead x, int... due) {

@@ -26,14 +26,6 @@ public final class WeeksTest {
         return x;
     }
 
-    private static void laidIs(String what, WhatToRead x, int... due) {
-        for (int i = 0; i < due.length; i++) {
-            CHECK.same(what + ": laid(" + i + ")", x.laid(i), due[i]);
-        }
-        CHECK.same(what + ": laid behind", x.laid(due.length), -1);
-        CHECK.same(what + ": laid ahead", x.laid(-1), -1);
-    }
-
     private static void weekMinutes() {
         WhatToRead x = threeSteps();
         CHECK.same("18 week(-1, 0)", x.week(-1, 0), false);
@@ -49,7 +41,7 @@ public final class WeeksTest {
         CHECK.same("18 week(51, 3000)", x.week(51, 3000), true);
         CHECK.same("18 changed again", x.lay(51), 51);
         CHECK.same("18 at first 300", x.pace(5) == 2 && x.lay(2) == 3, true);
-        laidIs("18 at first 300", x, 2, 3, 3);
+        CHECK.laid("18 at first 300", x, 2, 3, 3);
 
         WhatToRead y = new WhatToRead();
         y.topic(1, 0);
@@ -67,26 +59,26 @@ public final class WeeksTest {
         WhatToRead x = threeSteps();
         CHECK.row("19 the row", x, 0, 2, 5);
         CHECK.same("19 lay(0)", x.lay(0), 0);
-        laidIs("19 lay(0)", x, 0, 0, 0);
+        CHECK.laid("19 lay(0)", x, 0, 0, 0);
         x.week(0, 180);
         CHECK.same("19 just enough", x.lay(0), 0);
         x.week(0, 179);
         CHECK.same("19 one too few", x.lay(0), 1);
-        laidIs("19 one too few", x, 0, 0, 1);
+        CHECK.laid("19 one too few", x, 0, 0, 1);
         x.week(0, 99);
         x.week(1, 159);
         x.week(2, 59);
         CHECK.same("19 some pass by", x.lay(0), 3);
-        laidIs("19 some pass by", x, 1, 3, 3);
+        CHECK.laid("19 some pass by", x, 1, 3, 3);
         CHECK.same("19 the same again", x.lay(0), 3);
-        laidIs("20 the same again", x, 1, 3, 3);
+        CHECK.laid("20 the same again", x, 1, 3, 3);
     }
 
     private static void neverBack() {
         WhatToRead x = threeSteps();
         x.week(0, 120);
         CHECK.same("19 never ahead of the one ahead", x.lay(0), 1);
-        laidIs("19 never ahead of the one ahead", x, 0, 1, 1);
+        CHECK.laid("19 never ahead of the one ahead", x, 0, 1, 1);
     }
 
     private static void layingNothing() {
@@ -95,15 +87,15 @@ public final class WeeksTest {
         CHECK.same("19 no row yet", x.lay(7), 7);
         CHECK.same("19 lay(-1)", x.lay(-1), -1);
         CHECK.same("19 lay(52)", x.lay(52), -1);
-        laidIs("20 nothing", x);
+        CHECK.laid("20 nothing", x);
 
         WhatToRead y = threeSteps();
-        laidIs("20 never laid", y);
+        CHECK.laid("20 never laid", y);
         y.lay(3);
         y.way(0);
-        laidIs("20 a new row is not laid", y, 3, 3, 3);
+        CHECK.laid("20 a new row is not laid", y, 3, 3, 3);
         CHECK.same("19 no steps", y.lay(51), 51);
-        laidIs("20 no steps", y);
+        CHECK.laid("20 no steps", y);
     }
 
     private static void cannotLay() {
@@ -115,10 +107,10 @@ public final class WeeksTest {
         CHECK.same("19 the second finds none", x.lay(0), -2);
         CHECK.same("19 no such week comes first", x.lay(52), -1);
         CHECK.same("19 no such week comes first", x.lay(-1), -1);
-        laidIs("20 the latest that could be", x, 4, 4, 4);
+        CHECK.laid("20 the latest that could be", x, 4, 4, 4);
         x.week(50, 160);
         CHECK.same("19 in the last two", x.lay(0), 51);
-        laidIs("20 in the last two", x, 50, 50, 51);
+        CHECK.laid("20 in the last two", x, 50, 50, 51);
         CHECK.same("19 not in the last", x.lay(51), -2);
         CHECK.same("20 lowest int", x.laid(Integer.MIN_VALUE), -1);
         CHECK.same("20 highest int", x.laid(Integer.MAX_VALUE), -1);
@@ -128,10 +120,10 @@ public final class WeeksTest {
         WhatToRead x = threeSteps();
         x.pace(4);
         CHECK.same("19 at the pace of now", x.lay(0), 1);
-        laidIs("19 at the pace of now", x, 0, 1, 1);
+        CHECK.laid("19 at the pace of now", x, 0, 1, 1);
         x.drop();
         CHECK.same("19 a piece is gone", x.lay(0), -2);
-        laidIs("20 a piece is gone", x, 0, 1, 1);
+        CHECK.laid("20 a piece is gone", x, 0, 1, 1);
         CHECK.same("19 no such week comes first", x.lay(52), -1);
     }
 
@@ -144,7 +136,7 @@ public final class WeeksTest {
         }
         x.way(1 << 11);
         CHECK.same("19 a week each", x.lay(40), 51);
-        laidIs("20 a week each", x, 40, 41, 42, 43, 44, 45, 46, 47, 48, 49, 50, 51);
+        CHECK.laid("20 a week each", x, 40, 41, 42, 43, 44, 45, 46, 47, 48, 49, 50, 51);
         CHECK.same("19 a week too few", x.lay(41), -2);
     }
 }
